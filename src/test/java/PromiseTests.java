@@ -156,6 +156,22 @@ public final class PromiseTests {
         due("3: it holds no more than the saucer", y.flat(0, 1), 3);
         tell(y, "f21;");
         due("3: no harm, no anger, nothing held", y.count(5) + y.count(6) + y.count(7), 0);
+        y = told("a00+;w0091;");
+        tell(y, "f32;");
+        for (int what = 0; what < 6; what++) {
+            due("3: as at first, " + what, y.flat(0, what), what == 2 ? 1 : 0);
+        }
+        tell(y, "s003;");
+        int[] saucer = {3, 0, 1, 0, 0, 0};
+        for (int what = 0; what < 6; what++) {
+            due("3: a saucer alone, " + what, y.flat(0, what), saucer[what]);
+        }
+        tell(y, "a01-;");
+        due("3: an awning alone", y.flat(1, 2) * 1000 + y.flat(1, 0) + y.flat(1, 3) + y.flat(1, 4), 0);
+        due("3: of two digits, the second 0", tell(y, "f64;h10,111;h01,222;h9,000;"), 4);
+        due("3: tenants", y.habit(0, 0) * 100 + y.habit(1, 0) * 10 + y.habit(2, 0), 1019);
+        due("3: what is ahead of a fault of sense does not come", tell(y, "b+;s003;h0,222;s653;"), -2015);
+        due("3: wind, saucer, habits", y.count(4) * 100 + y.flat(0, 0) * 10 + y.count(2), 103);
         DripsOnBelow z = new DripsOnBelow();
         for (int i = 0; i < 32; i++) {
             tell96(z, i);
@@ -205,6 +221,7 @@ public final class PromiseTests {
         due("8: hour below", x.put(0, -1), -2);
         x.week();
         due("9: held", x.flat(0, 1), 8);
+        due("9: the least, of another", x.saucer(1, 0), 0);
         due("9: what it was", x.saucer(0, 4), 9);
         due("9: no more is held", x.flat(0, 1), 4);
         due("9: more again", x.saucer(0, 9), 4);
@@ -272,6 +289,15 @@ public final class PromiseTests {
         due("15: full less one", z.flat(0, 1), 4);
         DripsOnBelow v = told("f31;s108;w0090123;h2,082;h2,081;");
         due("15: by hours, by numbers: the one at 1 is held", v.week(), 8);
+        for (int i = 1; i < 9999; i++) {
+            v.week();
+        }
+        due("15: the last week", v.count(3), 9999);
+        int harm = v.count(6);
+        due("15: no room", v.week(), -6);
+        due("15: nothing changes", v.count(3) * 100 + v.count(6) - harm, 999900);
+        due("15: all harm of one at its limit", harm, 99999);
+        refusals("15", v, -6);
     }
 
     private static void kinds() {
@@ -354,13 +380,19 @@ public final class PromiseTests {
         due("16: no such, ahead of k below", x.steps(3, -2), -1);
         due("16: below", x.steps(-1, 0), -1);
         due("17: no such", x.down(3), -1);
+        due("17: below", x.down(-1), -1);
+        refusals("16, 17", x, -4, -1, -1, -1, -1);
         due("18: nothing is held, so all but figure 0 come", x.whom(0, 0), 3);
+        x = told("f61;s303;s202;s104;h5,010;h5,050;h5,000;h5,571;");
+        due("18: nothing is held", x.whom(0, 0), 3);
+        due("18: nor of a spiteful, two by two, then one", x.whom(0, 1) + x.whom(30, 1) + x.whom(10, 1), 24);
+        due("18: which passes by", x.whom(20, 1) + x.whom(40, 1), 0);
         due("18: at another hour", x.whom(0, 4), 0);
         due("18: not to where it starts from", x.whom(50, 0), 0);
         due("18: no such", x.whom(60, 8), -1);
         due("18: hour above", x.whom(0, 8), -2);
         due("18: hour below", x.whom(0, -1), -2);
-        refusals("16 to 18", x, -4, -1, -1, -1, -1, -2, -2);
+        refusals("18", x, -1, -2, -2);
     }
 
     private static void harmedOnes() {
@@ -386,6 +418,12 @@ public final class PromiseTests {
         due("21: at 3 nothing hangs", x.least(0, 0), 3);
         due("21: that harm: 5 of the other", x.least(0, 1), 5);
         due("21: of the other", x.least(1, 0) * 10 + x.least(1, 1), 30);
+        DripsOnBelow y = told("f31;w009123;h2,093;");
+        due("21: 0 is the least of several", y.least(0, 0) * 10 + y.least(0, 1), 0);
+        y.wash(0, 9, 127);
+        due("21: 7 alone", y.least(0, 0) * 10 + y.least(0, 1), 70);
+        y.wash(0, 9, 254);
+        due("21: 0 alone", y.least(0, 0) * 10 + y.least(0, 1), 0);
         x.put(0, 0);
         due("21: of the other, 9 and 3 of the first", x.least(1, 0) * 100 + x.least(1, 1), 312);
         due("21: no such", x.least(2, 5), -1);
@@ -431,6 +469,13 @@ public final class PromiseTests {
         due("24: 3 .. 3 were to 4, so 0 .. 4", x.rule(), 4);
         x.wash(0, 9, 255);
         due("24: none is less", x.rule(), -9);
+        x = told("f21;w0097;h1,097;");
+        due("24: 1 .. 7 to 0", x.rule(), 17);
+        x = told("f21;w009067;h1,097;");
+        due("24: all to 0 harms as well", x.rule(), -9);
+        due("23: 7 .. 7 to 0", x.quiet(7, 7), 9);
+        x.wash(0, 9, 192);
+        due("23: to 0, where nothing hangs", x.quiet(7, 7) * 10 + x.quiet(6, 6), 9);
     }
 
     private static void bestOfFlats() {
@@ -450,12 +495,17 @@ public final class PromiseTests {
         x.week();
         due("26: empty in mind", x.big(10), 7);
         due("26: in mind", x.flat(10, 0) * 10 + x.flat(10, 1), 43);
+        x = told("f31;w0091;h2,041;h2,061;");
+        due("26: the greatest", x.big(10), 9);
+        x = told("f31;s108;w0090;w10901;h2,330;h2,040;h2,031;h2,560;");
+        due("26: a heavy one is not held, of a spiteful one half", x.big(10), 4);
         x = told("f23;w0090;w01401;w0280;h4,270;");
         due("27: aside to the lesser is 7, none 4, the greater 7", x.leads(11), 1);
         x.wash(1, 8, 1);
         due("27: of several the first", x.leads(11), 0);
         x.wash(2, 6, 1);
         due("27: the greater", x.leads(11), 2);
+        due("27: a flat without a habit, at the ground", x.leads(0), 0);
         due("27: no such", x.leads(13), -1);
         due("27: in mind", x.flat(11, 2), 1);
         due("28: to the greater", x.whose(11, 1), 4);
@@ -529,6 +579,17 @@ public final class PromiseTests {
     private static void changes() {
         DripsOnBelow x = told("f22;w0090;w0190;h2,070;h3,080;");
         due("33: none by which both have less", x.swaps(0) * 10 + x.swaps(1), -9);
+        // 1 drips 2 on 0, which rises on 1: by a change each has 1 less or all less
+        x = told("f21;w0092;w1091;h1,012;h0,411;");
+        due("33: 1 less is less", x.swaps(0) * 10 + x.swaps(1), 11);
+        // 1 drips on 0, 2 on both: by a change 0 has less, 1 as much
+        x = told("f31;w0091;w1091;h1,091;h2,011;");
+        due("33: as much is not less", x.swaps(0), 0);
+        x = told("f31;w0091;w1091;h0,091;h2,011;");
+        x.move(0, 1);
+        due("33: nor for the lesser", x.swaps(0), 0);
+        x = told("f31;w0091;w1091;w2091;h1,011;h2,011;h0,411;");
+        due("33: one pair and a ring", x.swaps(0) * 10 + x.swaps(2), 11);
         x = told("f21;w0090;w1090;h1,070;h0,490;");
         due("33: one", x.swaps(0), 1);
         due("33: the first", x.swaps(1), 1);
