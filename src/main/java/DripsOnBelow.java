@@ -95,10 +95,6 @@ public final class DripsOnBelow {
         return number;
     }
 
-    private boolean isFlat(int flat) {
-        return now.front.placeOf(flat) >= 0;
-    }
-
     private boolean isTenant(int tenant) {
         return within(tenant, 0, now.front.tenants() - 1);
     }

@@ -979,10 +979,30 @@ public final class ModelTests {
         }
     }
 
+    /** All hang their washing always and most let something fall, so that changes are worth something. */
+    private void crowd() {
+        int stacks = 1 + upTo(2);
+        int storeys = 3 + upTo(stacks == 1 ? 3 : 1);
+        tell("f" + storeys + stacks + ";b" + "+-0".charAt(upTo(2)) + ";");
+        for (int storey = 0; storey < storeys; storey++) {
+            for (int stack = 0; stack < stacks; stack++) {
+                tell("w" + storey + stack + (5 + upTo(4)) + "01234567;");
+            }
+        }
+        for (int i = 0; i < 8; i++) {
+            tell("h" + upTo(storeys * stacks - 1) + "," + upTo(5) + upTo(9) + upTo(7) + ";");
+        }
+        for (int what = 0; what < 3; what++) {
+            same("swaps(" + what + ")", x.swaps(what), m.swaps(what));
+        }
+        same("climbs()", x.climbs(), m.climbs());
+    }
+
     public static void main(String[] args) {
         int runs = args.length > 0 ? Integer.parseInt(args[0]) : 600;
         for (int i = 0; i < runs && wrong == 0; i++) {
             new ModelTests(20261118L + i).run();
+            new ModelTests(-20261118L - i).crowd();
         }
         for (int i = 0; i < CALLS - 1; i++) {
             if (SEEN[i] == 0) {

@@ -193,6 +193,7 @@ public final class PromiseTests {
         due("4: other what", x.flat(0, 6), -2);
         due("4: what below", x.flat(0, -1), -2);
         due("5: tenant's habits", x.tenant(4, 2), 2);
+        due("5: another's", told("h0,000;h4,111;h4,222;").tenant(0, 2), 1);
         due("5: flat", x.tenant(3, 0), 11);
         due("5: no such", x.tenant(6, 0), -1);
         due("5: below", x.tenant(-1, 3), -1);
@@ -350,9 +351,13 @@ public final class PromiseTests {
         due("19: spiteful of 9: none is held by 10", x.does(0, 1) * 10 + x.does(0, 0), 6);
         due("19: spiteful of figure 0", x.does(2, 0), 0);
         due("19: heavy: nothing is held", x.does(1, 1) * 100 + x.does(1, 0), 1818);
-        x = told("f31;s109;s009;w0090;w1090;b0;h1,590;h1,160;");
-        due("15: half the room is held, then half of what is left", x.week(), 6 + 3);
-        due("15: 4 and then 5 held, 1 less", x.flat(0, 1), 8);
+        x = told("f31;s109;s009;w0090;w1090;b0;h1,590;h1,140;");
+        due("15: half the room is held, then all of the other", x.week(), 6 + 2);
+        due("15: 4 and then 4 held, 1 less", x.flat(0, 1), 7);
+        x = told("f31;s106;w0090;b+;b0;h1,590;h2,590;h2,590;");
+        x.wind(0);
+        x.move(0, 1);
+        due("15: two below, past the saucer", x.week() * 10 + x.count(5), 120);
         x = told("f31;s105;w0090;w1090;h2,190;");
         due("19: blown is held as a fall", x.does(0, 1) * 10 + x.does(0, 0), 42);
         due("19: no such habit", x.does(1, 0), -1);
@@ -562,6 +567,21 @@ public final class PromiseTests {
         due("31: two weeks of it are alike", x.harmed(-1, 2), 2 * x.harmed(-1, 1));
         x = told("f31;w00901;w10901;h2,010;h1,001;");
         due("31: 2, 2", x.climbs(), 1);
+        x = told("f21;w0090;w1090;h1,030;h0,490;h0,490;h0,490;h0,490;h0,490;");
+        due("31: 1 is angry at 0 by 5: 8, 9, .. 14, 14", x.climbs(), 7);
+        x.week();
+        x.wash(10, 0, 0);
+        x.week();
+        due("31: angry still, but not harmed by 0 in the latest week", x.climbs(), 1);
+        x = told("f21;w0090;w1090;h0,030;h1,490;h1,490;h1,490;h1,490;h1,490;");
+        x.move(0, 1);
+        due("31: 0 is angry at 1", x.climbs(), 7);
+        x = told("f21;w0090;w1090;h1,030;h0,490;h0,490;h0,490;h0,490;");
+        due("31: 4 is not 5, in the second week 8 is: 7, 7", x.climbs(), 1);
+        x = told("f31;w0090;w1090;h2,030;h1,000;h0,490;");
+        due("31: 3 and 3 and 1 by one each", x.climbs(), 1);
+        x = told("f64;w00901234567;w1090;w2090;w3090;w4090;", "h20,010;h16,010;h12,010;h8,010;h4,010;");
+        due("31: 15, 15", x.climbs(), 1);
     }
 
     private static void worths() {
@@ -678,6 +698,8 @@ public final class PromiseTests {
                 due("37: " + n + " weeks of " + seed, x.seeds(n, seed), harm);
             }
         }
+        x.wash(0, 0, 0);
+        due("37: from how all is now", x.seeds(20, 1), 0);
         due("37: none", x.seeds(0, 5), -4);
         due("37: too many", x.seeds(21, 5), -6);
         due("37: in mind", x.habit(0, 3) + x.habit(1, 3) + x.habit(2, 3) + x.count(3), 0);
