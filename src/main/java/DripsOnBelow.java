@@ -374,7 +374,7 @@ public final class DripsOnBelow {
         if (k < -1) {
             return refuse(BELOW);
         }
-        Way way = now.follow(habit, true);
+        Way way = now.follow(habit);
         if (k == -1) {
             return way.count;
         }
@@ -385,7 +385,7 @@ public final class DripsOnBelow {
         if (!isHabit(habit)) {
             return refuse(NOBODY);
         }
-        Way way = now.follow(habit, true);
+        Way way = now.follow(habit);
         return way.count > 0 ? Front.flatAt(get(way.places, way.count - 1)) : NONE;
     }
 
@@ -399,7 +399,7 @@ public final class DripsOnBelow {
         }
         int bits = 0;
         for (int i = 0; i < now.habits.count; i++) {
-            if (get(now.habits.hour, i) == hour && now.follow(i, false).comesTo(place)) {
+            if (get(now.habits.hour, i) == hour && now.trace(i).comesTo(place)) {
                 bits |= 1 << i;
             }
         }
@@ -410,7 +410,7 @@ public final class DripsOnBelow {
         if (!isHabit(habit) || !isTenant(tenant)) {
             return refuse(NOBODY);
         }
-        Way way = now.follow(habit, true);
+        Way way = now.follow(habit);
         int harm = 0;
         for (int i = 0; i < way.count; i++) {
             if (get(now.front.lives, get(way.places, i)) == tenant) {
@@ -651,15 +651,15 @@ public final class DripsOnBelow {
     }
 
     public int swaps(int what) {
-        if (what == 0 || what == 1) {
-            return pairs(what == 1);
+        if (!within(what, 0, 2)) {
+            return refuse(OTHER);
         }
-        return what == 2 ? rings() : refuse(OTHER);
+        tryAsIs();
+        return what == 2 ? rings() : pairs(what == 1);
     }
 
     /** Who has no harm can't have less: such tenants are passed over, here and in the rings. */
     private int pairs(boolean first) {
-        tryAsIs();
         int many = 0;
         for (int a = 0; a < PLACES; a++) {
             for (int b = a + 1; b < PLACES; b++) {
@@ -680,7 +680,6 @@ public final class DripsOnBelow {
     }
 
     private int rings() {
-        tryAsIs();
         int many = 0;
         for (int a = 0; a < PLACES; a++) {
             for (int b = a + 1; b < PLACES && get(before, a) > 0; b++) {
@@ -1000,19 +999,30 @@ public final class DripsOnBelow {
         final int[] stays = new int[MOST_STOREYS];
         int count;
 
-        void follow(Front front, Habits habits, int habit, boolean saucers) {
+        /** Where it goes by its kind alone, whatever falls and whatever is held. */
+        void trace(Front front, Habits habits, int habit) {
             count = 0;
             int kind = get(habits.kind, habit);
-            int left = get(habits.figure, habit);
             int here = next(front, kind, get(front.home, get(habits.who, habit)));
-            for (int i = 0; i < MOST_STOREYS && here >= 0 && left > 0; i++) {
-                int held = saucers ? Math.min(left, room(front, kind, here)) : 0;
+            for (int i = 0; i < MOST_STOREYS && here >= 0; i++) {
                 set(places, i, here);
+                count = i + 1;
+                here = next(front, kind, here);
+            }
+        }
+
+        /** The way just traced, as the saucers hold: it ends where nothing is left, of figure 0 at once. */
+        void hold(Front front, Habits habits, int habit) {
+            int kind = get(habits.kind, habit);
+            int left = get(habits.figure, habit);
+            int most = count;
+            count = 0;
+            for (int i = 0; i < most && left > 0; i++) {
+                int held = Math.min(left, room(front, kind, get(places, i)));
                 set(comes, i, left);
                 set(stays, i, held);
                 count = i + 1;
                 left -= held;
-                here = next(front, kind, here);
             }
         }
 
@@ -1074,8 +1084,15 @@ public final class DripsOnBelow {
             ledger.clear();
         }
 
-        Way follow(int habit, boolean saucers) {
-            way.follow(front, habits, habit, saucers);
+        Way follow(int habit) {
+            way.trace(front, habits, habit);
+            way.hold(front, habits, habit);
+            return way;
+        }
+
+        /** The way alone; how much comes and stays is not told of it. */
+        Way trace(int habit) {
+            way.trace(front, habits, habit);
             return way;
         }
 
@@ -1103,7 +1120,8 @@ public final class DripsOnBelow {
         }
 
         void fall(int habit) {
-            way.follow(front, habits, habit, true);
+            way.trace(front, habits, habit);
+            way.hold(front, habits, habit);
             int doer = get(habits.who, habit);
             for (int i = 0; i < way.count; i++) {
                 int place = get(way.places, i);

@@ -1,3 +1,9 @@
+import com.sun.source.tree.MethodInvocationTree;
+import com.sun.source.tree.MethodTree;
+import com.sun.source.tree.NewClassTree;
+import com.sun.source.util.JavacTask;
+import com.sun.source.util.TreePathScanner;
+import com.sun.source.util.Trees;
 import java.lang.reflect.Constructor;
 import java.lang.reflect.Field;
 import java.lang.reflect.Method;
@@ -5,14 +11,22 @@ import java.lang.reflect.Modifier;
 import java.nio.file.Files;
 import java.nio.file.Path;
 import java.util.Arrays;
+import java.util.HashMap;
+import java.util.LinkedHashSet;
 import java.util.List;
 import java.util.Map;
+import java.util.Set;
 import java.util.TreeMap;
 import java.util.regex.Matcher;
 import java.util.regex.Pattern;
+import javax.lang.model.element.Element;
+import javax.tools.JavaCompiler;
+import javax.tools.StandardJavaFileManager;
+import javax.tools.ToolProvider;
 
 /** The source keeps to LANGUAGE.md, as far as its text and the face of its classes tell. */
 public final class LanguageTests {
+    private static final Path SOURCE = Path.of("src/main/java/DripsOnBelow.java");
     private static int wrong = 0;
 
     private static final List<String> FACE = List.of(
@@ -134,13 +148,85 @@ public final class LanguageTests {
         }
     }
 
+    /** Who calls whom, by the compiler's own reading of the source. */
+    private static Map<String, Set<String>> calls() throws Exception {
+        JavaCompiler compiler = ToolProvider.getSystemJavaCompiler();
+        StandardJavaFileManager files = compiler.getStandardFileManager(null, null, null);
+        JavacTask task = (JavacTask) compiler.getTask(null, files, null, List.of("-proc:none"), null,
+                files.getJavaFileObjects(SOURCE));
+        Trees trees = Trees.instance(task);
+        Map<String, Set<String>> all = new HashMap<>();
+        TreePathScanner<Void, String> scanner = new TreePathScanner<>() {
+            private String name() {
+                Element e = trees.getElement(getCurrentPath());
+                return e == null ? "" : e.getEnclosingElement() + "." + e;
+            }
+
+            @Override
+            public Void visitMethod(MethodTree tree, String from) {
+                all.computeIfAbsent(name(), k -> new LinkedHashSet<>());
+                return super.visitMethod(tree, name());
+            }
+
+            @Override
+            public Void visitMethodInvocation(MethodInvocationTree tree, String from) {
+                note(from);
+                return super.visitMethodInvocation(tree, from);
+            }
+
+            @Override
+            public Void visitNewClass(NewClassTree tree, String from) {
+                note(from);
+                return super.visitNewClass(tree, from);
+            }
+
+            private void note(String from) {
+                all.computeIfAbsent(from == null ? "fields" : from, k -> new LinkedHashSet<>()).add(name());
+            }
+        };
+        var units = task.parse();
+        task.analyze();
+        for (var unit : units) {
+            scanner.scan(unit, null);
+        }
+        return all;
+    }
+
+    /** How many calls stand open at most from there on; a recursion is told and goes no deeper. */
+    private static int depth(String method, Map<String, Set<String>> calls, Set<String> open) {
+        if (!calls.containsKey(method)) {
+            return 0;
+        }
+        if (!open.add(method)) {
+            check("a recursion at " + method, false);
+            return 0;
+        }
+        int most = 0;
+        for (String next : calls.get(method)) {
+            most = Math.max(most, depth(next, calls, open));
+        }
+        open.remove(method);
+        return most + 1;
+    }
+
+    /** Calls that are no recursion go at most eight deep; of recursions there are none. */
+    private static void depths() throws Exception {
+        Map<String, Set<String>> calls = calls();
+        check("calls are found", calls.size() > FACE.size() && calls.containsKey("DripsOnBelow.week()"));
+        for (String method : calls.keySet()) {
+            int deep = depth(method, calls, new LinkedHashSet<>());
+            check(method + " goes " + deep + " deep", deep <= 8);
+        }
+    }
+
     public static void main(String[] args) throws Exception {
-        String text = Files.readString(Path.of("src/main/java/DripsOnBelow.java"));
+        String text = Files.readString(SOURCE);
         String code = withoutComments(text);
         face();
         words(code);
         indices(code);
         lengths(text);
+        depths();
         System.out.println(wrong == 0 ? "the language is kept" : wrong + " breaks of the language");
         if (wrong != 0) {
             System.exit(1);

@@ -434,14 +434,11 @@ public final class ModelTests {
             if (now.find(flat) == null || !hour(hour)) {
                 return no(now.find(flat) == null ? -1 : -2);
             }
-            World bare = now.like();
-            bare.flats.forEach(f -> f.saucer = 0);
-            bare.flats.forEach(f -> f.holds = 0);
             int bits = 0;
-            for (int i = 0; i < bare.habits.size(); i++) {
-                Habit h = bare.habits.get(i);
-                for (Drop d : bare.fall(h)) {
-                    bits |= h.hour == hour && d.flat.number() == flat ? 1 << i : 0;
+            for (int i = 0; i < now.habits.size(); i++) {
+                Habit h = now.habits.get(i);
+                for (Flat f = now.onward(now.home(h.tenant), h.kind); f != null; f = now.onward(f, h.kind)) {
+                    bits |= h.hour == hour && f.number() == flat ? 1 << i : 0;
                 }
             }
             return bits;

@@ -366,6 +366,31 @@ public final class PromiseTests {
         due("19: its own", x.does(0, 2), 0);
     }
 
+    /** A way is told by its kind: of figure 0, whom() has it as of any other, steps() and down() do not. */
+    private static void waysOfNothing() {
+        String front = "f43;b+;a31-;a20+;";
+        DripsOnBelow x = told(front + "h9,100;h10,200;h11,300;h0,400;h9,500;");
+        DripsOnBelow y = told(front + "h9,190;h10,220;h11,350;h0,410;h9,570;");
+        int[] flats = {0, 1, 2, 10, 11, 12, 20, 21, 22, 30, 31, 32};
+        int[] want = {0, 2, 4, 8, 2, 21, 2, 17, 4, 0, 0, 0};
+        for (int i = 0; i < flats.length; i++) {
+            due("18: of figure 0, to " + flats[i], x.whom(flats[i], 0), want[i]);
+            due("18: of other figures, to " + flats[i], y.whom(flats[i], 0), want[i]);
+            y.saucer(flats[i], 1);
+        }
+        for (int i = 0; i < 5; i++) {
+            due("16: of figure 0", x.steps(i, -1) * 10 + x.steps(i, 0), -9);
+            due("17: of figure 0", x.down(i), -9);
+        }
+        for (int i = 0; i < flats.length; i++) {
+            due("18: saucers have no part, at " + flats[i], y.whom(flats[i], 0), want[i]);
+        }
+        x.wind(0);
+        due("18: of figure 0, spiteful two below", x.whom(10, 0) + x.whom(0, 0) * 100, 8 + 16 + 1 + 1700);
+        due("18: which passes by, a blown does not", x.whom(20, 0), 2 + 1);
+        due("18: it asks nothing of the week", x.week() + x.count(5), 0);
+    }
+
     private static void ways() {
         DripsOnBelow x = told("f61;s303;s202;s104;h5,070;h5,050;h5,004;");
         due("16: till nothing is left", x.steps(0, -1), 4);
@@ -387,9 +412,10 @@ public final class PromiseTests {
         due("17: no such", x.down(3), -1);
         due("17: below", x.down(-1), -1);
         refusals("16, 17", x, -4, -1, -1, -1, -1);
-        due("18: nothing is held, so all but figure 0 come", x.whom(0, 0), 3);
-        x = told("f61;s303;s202;s104;h5,010;h5,050;h5,000;h5,571;");
         due("18: nothing is held", x.whom(0, 0), 3);
+        due("18: of figure 0 too, at its hour", x.whom(0, 4) * 10 + x.whom(40, 4), 44);
+        x = told("f61;s303;s202;s104;h5,010;h5,050;h5,000;h5,571;");
+        due("18: nothing is held, whatever the figure", x.whom(0, 0), 7);
         due("18: nor of a spiteful, two by two, then one", x.whom(0, 1) + x.whom(30, 1) + x.whom(10, 1), 24);
         due("18: which passes by", x.whom(20, 1) + x.whom(40, 1), 0);
         due("18: at another hour", x.whom(0, 4), 0);
@@ -834,6 +860,7 @@ public final class PromiseTests {
         kinds();
         harms();
         ways();
+        waysOfNothing();
         harmedOnes();
         hoursOf();
         quietHours();
