@@ -564,7 +564,8 @@ public final class BoundaryTests {
             due("3: one behind it", x.habit(many, 3), -1);
             due("3: one more", tell(x, "h1,121;"), many < 8 ? 1 : -2000);
             due("3: is there, if there was room", x.count(2), many < 8 ? many + 1 : 8);
-            due("3: and so on", tell(x, "b-;" + "h1,121;".repeat(8)), many == 0 ? -2052 : -2003 - 7 * Math.max(0, 7 - many));
+            int room = Math.max(0, 7 - many);
+            due("3: eight more", tell(x, "b-;" + "h1,121;".repeat(8)), -2003 - 7 * room);
             due("3: with a fault nothing comes", x.count(4), 1);
             due("3: all of eight behind a new front", tell(x, "f32;" + "h5,595;".repeat(8)), 9);
             due("3: eight", x.count(2), 8);
@@ -610,6 +611,24 @@ public final class BoundaryTests {
         dueText("3: all else as at first", seen(x), seen(y));
         due("3: the image is kept", x.restore(), 1);
         due("3: with its habits", x.count(2), 6);
+    }
+
+    /** Habits that are no more let nothing fall, whatever is told behind them. */
+    private static void noHabitsOfBefore() {
+        String washing = "w00901234567;w01901234567;w10901234567;w11901234567;";
+        for (int many = 0; many < 8; many++) {
+            DripsOnBelow x = told("f32;" + "h4,090;h4,091;".repeat(4));
+            due("3: a new front", tell(x, "f32;" + washing), 5);
+            due("3: of as many habits", tell(x, "b0;" + "h5,000;".repeat(many)), 1 + many);
+            due("3: harm by " + many + " of nothing", x.week(), 0);
+            due("3: in mind as well", x.harmed(-1, 20) + x.quiet(0, 6) + x.seeds(20, 1) + x.swaps(0), 0);
+            due("3: nor do they climb", x.climbs(), 1);
+            for (int hour = 0; hour < 8; hour++) {
+                due("3: nor come to a flat at " + hour, x.whom(10, hour) + x.whom(0, hour), 0);
+            }
+            due("3: of the tenant there are none", x.tenant(4, 2), 0);
+            due("3: the one behind the last", x.steps(many, -1), -1);
+        }
     }
 
     // ---- what is put, at its least and greatest ----
@@ -776,7 +795,8 @@ public final class BoundaryTests {
     }
 
     private static void endsOfWaysFrom(int high, int wide, int wind, int tenant) {
-        StringBuilder text = new StringBuilder("f").append(high).append(wide).append(";b").append("-0+".charAt(wind + 1));
+        StringBuilder text = new StringBuilder("f");
+        text.append(high).append(wide).append(";b").append("-0+".charAt(wind + 1));
         for (int kind = 0; kind <= 5; kind++) {
             text.append(";h").append(tenant).append(',').append(kind).append("1").append(kind);
         }
@@ -1137,7 +1157,8 @@ public final class BoundaryTests {
         // heavy ones of 18 on the ground: 5 of them are 90
         String five = "f61;w00901234567;h1,390;h1,390;h1,390;h1,390;h1,390;";
         for (int more = 8; more <= 12; more++) {
-            DripsOnBelow x = told(five + "h1,0" + Math.min(9, more) + "0;" + (more > 9 ? "h1,0" + (more - 9) + "0;" : ""));
+            int rest = Math.max(0, more - 9);
+            DripsOnBelow x = told(five + "h1,0" + (more - rest) + "0;h1,0" + rest + "0;");
             due("32: 100 less 90 and " + more, x.worth(0), Math.max(0, 10 - more));
         }
         DripsOnBelow x = told("f64;");
@@ -1169,9 +1190,9 @@ public final class BoundaryTests {
     }
 
     private static void ringsAtTheirEdges() {
-        // 2 falls on 0 by 1, is blown to 1 by 1, 0 rises to 2 by 1: at 00 the tenant 2 harms none, 0 at 01 or 10 neither
+        // 2 falls on 0 and is blown to 1, 0 rises to 2, by 1 each: at 00 the tenant 2 harms none, 0 at 01 or 10 neither
         DripsOnBelow x = told("f22;b+;w0011;w0122;w1013;h2,011;h2,122;h0,413;");
-        due("33: 1 each", x.tenant(0, 1) + x.harmed(0, 1) * 100 + x.harmed(1, 1) * 10 + x.harmed(2, 1), 111);
+        due("33: 1 each", x.harmed(0, 1) * 100 + x.harmed(1, 1) * 10 + x.harmed(2, 1), 111);
         due("33: both rings of three, each by 1 less", x.swaps(2), 2);
         due("33: one pair, the least and the last of these", x.swaps(0) * 100 + x.swaps(1), 102);
         // 3 falls on 1 by 2, 1 rises to 3, 0 to 10: 1 to 2's has 1, 2 to 3's and 3 to 1's have none
@@ -1346,6 +1367,7 @@ public final class BoundaryTests {
         roomForHabits();
         faultsChangeNothing();
         anewFront();
+        noHabitsOfBefore();
         putAtEdges();
         moves();
         rains();
