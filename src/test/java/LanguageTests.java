@@ -1,5 +1,6 @@
 import com.sun.source.tree.MethodInvocationTree;
 import com.sun.source.tree.MethodTree;
+import com.sun.source.tree.NewArrayTree;
 import com.sun.source.tree.NewClassTree;
 import com.sun.source.util.JavacTask;
 import com.sun.source.util.TreePathScanner;
@@ -11,7 +12,9 @@ import java.lang.reflect.Modifier;
 import java.nio.file.Files;
 import java.nio.file.Path;
 import java.util.Arrays;
+import java.util.Collections;
 import java.util.HashMap;
+import java.util.IdentityHashMap;
 import java.util.LinkedHashSet;
 import java.util.List;
 import java.util.Map;
@@ -27,6 +30,8 @@ import javax.tools.ToolProvider;
 /** The source keeps to LANGUAGE.md, as far as its text and the face of its classes tell. */
 public final class LanguageTests {
     private static final Path SOURCE = Path.of("src/main/java/DripsOnBelow.java");
+    private static final Set<String> MAKERS = Set.of("DripsOnBelow.DripsOnBelow()", "DripsOnBelow.Front.Front()",
+            "DripsOnBelow.House.House()", "DripsOnBelow.Letters.Letters()");
     private static int wrong = 0;
 
     private static final List<String> FACE = List.of(
@@ -176,8 +181,20 @@ public final class LanguageTests {
 
             @Override
             public Void visitNewClass(NewClassTree tree, String from) {
+                made(from);
                 note(from);
                 return super.visitNewClass(tree, from);
+            }
+
+            /** A run's room is small: what is made is made once, as a field or by a constructor. */
+            private void made(String from) {
+                check("something is made in " + from, from == null || MAKERS.contains(from));
+            }
+
+            @Override
+            public Void visitNewArray(NewArrayTree tree, String from) {
+                made(from);
+                return super.visitNewArray(tree, from);
             }
 
             private void note(String from) {
@@ -219,6 +236,35 @@ public final class LanguageTests {
         }
     }
 
+    private static void count(Object o, Set<Object> objects, int[] elements) throws Exception {
+        if (o == null || !objects.add(o)) {
+            return;
+        }
+        if (o instanceof int[] row) {
+            elements[0] += row.length;
+            return;
+        }
+        for (Field f : o.getClass().getDeclaredFields()) {
+            if (!Modifier.isStatic(f.getModifiers())) {
+                elements[0]++;
+                f.setAccessible(true);
+                if (!f.getType().isPrimitive()) {
+                    count(f.get(o), objects, elements);
+                }
+            }
+        }
+    }
+
+    /** All that an object ever makes: some 600,000 objects, 7.3 million elements are one run's room. */
+    private static void room() throws Exception {
+        Set<Object> objects = Collections.newSetFromMap(new IdentityHashMap<>());
+        int[] elements = new int[1];
+        DripsOnBelow x = new DripsOnBelow();
+        count(x, objects, elements);
+        check("objects: " + objects.size(), objects.size() > 50 && objects.size() <= 100);
+        check("elements: " + elements[0], elements[0] > 2000 && elements[0] <= 4000);
+    }
+
     public static void main(String[] args) throws Exception {
         String text = Files.readString(SOURCE);
         String code = withoutComments(text);
@@ -227,6 +273,7 @@ public final class LanguageTests {
         indices(code);
         lengths(text);
         depths();
+        room();
         System.out.println(wrong == 0 ? "the language is kept" : wrong + " breaks of the language");
         if (wrong != 0) {
             System.exit(1);
